@@ -1,0 +1,77 @@
+import java.nio.charset.StandardCharsets;
+import java.nio.file.Files;
+import java.nio.file.Path;
+import java.util.Set;
+import java.util.TreeSet;
+import java.lang.reflect.Constructor;
+import java.lang.reflect.Field;
+import java.lang.reflect.Method;
+import java.lang.reflect.Modifier;
+import java.util.regex.Matcher;
+import java.util.regex.Pattern;
+
+/** Rules of LANGUAGE.md that can be seen in the source text or in the compiled class. */
+public final class LanguageTest {
+    private static final Check check = new Check();
+    private static final Set<String> FACE = Set.of("court", "infant", "skill", "type", "clear", "read", "month", "nurse",
+        "retire", "undo", "of", "hour", "day", "reign", "falls", "line", "meet", "congress", "nurses", "visit", "note",
+        "heard", "forget", "is", "listen", "which", "powers", "walks", "dynasties", "part", "image", "from", "status",
+        "count", "digest");
+
+    public static void main(String[] args) throws Exception {
+        String source = Files.readString(Path.of("src/main/java/PramState.java"), StandardCharsets.ISO_8859_1);
+        String code = source.replaceAll("(?s)/\\*.*?\\*/", "").replaceAll("//[^\n]*", "");
+        face();
+        members();
+        never(code, "rule 6", "\\b(throw|throws|try|catch|synchronized|assert)\\b");
+        never(code, "rule 2", "->|::");
+        never(code, "rule 4, annotations", "@");
+        never(code, "rule 4, other imports", "\\bimport (?!java\\.util\\.(Arrays|ArrayList|List|Iterator);)");
+        never(code, "rule 4, constants of the library", "\\b(Integer|Long|Math)\\.[A-Z]");
+        never(code, "rule 4, exact functions", "\\bMath\\.\\w*Exact\\b");
+        never(code, "rule 4, texts", "[^\\x01-\\x7f]");
+        never(code, "rule 10, joined texts", "\"\\s*\\+|\\+\\s*\"");
+        never(code, "rule 9, loops without an end", "while \\(true\\)|for \\(;;\\)|for \\([^;]*;\\s*;");
+        check.end();
+    }
+
+    private static void never(String code, String rule, String pattern) {
+        Matcher found = Pattern.compile(pattern).matcher(code);
+        check.due(rule + (found.find() ? ": " + found.group() : ""), found.reset().find() ? 1 : 0, 0);
+    }
+
+    private static void face() {
+        Set<String> methods = new TreeSet<>();
+        for (Method m : PramState.class.getDeclaredMethods()) {
+            boolean open = Modifier.isPublic(m.getModifiers());
+            check.due("rule 1: " + m.getName() + " is of the face, or private", open || Modifier.isPrivate(m.getModifiers()) ? 1 : 0, 1);
+            check.due("rule 1: name " + m.getName(), open == FACE.contains(m.getName()) ? 1 : 0, 1);
+            if (open) methods.add(m.getName());
+        }
+        check.due("rule 1: all of the face", methods.equals(new TreeSet<>(FACE)) ? 1 : 0, 1);
+        Constructor<?>[] constructors = PramState.class.getDeclaredConstructors();
+        check.due("rule 1: one constructor", constructors.length, 1);
+        check.due("rule 1: final", Modifier.isFinal(PramState.class.getModifiers()) ? 1 : 0, 1);
+    }
+
+    private static void members() {
+        int open = 0;
+        for (Field f : PramState.class.getDeclaredFields()) {
+            if (Modifier.isPublic(f.getModifiers())) open++;
+            else check.due("rule 1: field " + f.getName() + " is private", Modifier.isPrivate(f.getModifiers()) ? 1 : 0, 1);
+        }
+        check.due("rule 1: constants of the face", open, 4);
+        Class<?>[] inside = PramState.class.getDeclaredClasses();
+        check.due("rule 11: classes", inside.length <= 11 ? 1 : 0, 1);
+        for (Class<?> c : inside) {
+            check.due("rule 2: " + c.getSimpleName() + " is static", Modifier.isStatic(c.getModifiers()) ? 1 : 0, 1);
+            for (Field f : c.getDeclaredFields()) {
+                if (!Modifier.isStatic(f.getModifiers())) continue;
+                check.due("rule 5: " + f.getName() + " is final", Modifier.isFinal(f.getModifiers()) ? 1 : 0, 1);
+            }
+            for (Method m : c.getDeclaredMethods()) {
+                check.due("rule 11: parameters of " + m.getName(), m.getParameterCount() <= 7 ? 1 : 0, 1);
+            }
+        }
+    }
+}
