@@ -22,10 +22,8 @@ public final class PramState {
     private final Court now;
     private final Court[] images;
     private final boolean[] kept;
-    private final byte[] text;
-    private final CourtReader reader;
+    private final CourtText text;
     private final NursePlan plan;
-    private int typed;
     private long above;
     private long below;
     private int badCalls;
@@ -37,8 +35,7 @@ public final class PramState {
         now = new Court(kinds);
         images = new Court[] {new Court(kinds), new Court(kinds)};
         kept = new boolean[IMAGES];
-        text = new byte[TEXT];
-        reader = new CourtReader(text, new Court(kinds));
+        text = new CourtText(new Court(kinds));
         plan = new NursePlan();
         above = 0;
         below = 1;
@@ -68,21 +65,20 @@ public final class PramState {
 
     public int type(int c) {
         if (!within(c, 127)) return bad(BAD);
-        if (typed >= TEXT) return full();
-        text[typed] = (byte) c;
-        typed++;
-        return typed;
+        if (text.length >= TEXT) return full();
+        text.append(c);
+        return text.length;
     }
 
     public int clear() {
-        int before = typed;
-        typed = 0;
+        int before = text.length;
+        text.length = 0;
         return before;
     }
 
     public int read() {
-        int items = reader.readCourt(typed);
-        if (items >= 0) now.copyFrom(reader.draft);
+        int items = text.readCourt();
+        if (items >= 0) now.copyFrom(text.draft);
         return items;
     }
 
@@ -398,7 +394,7 @@ public final class PramState {
             case 3: return now.notes;
             case 4: return now.sounds;
             case 5: return now.pasts;
-            default: return typed;
+            default: return text.length;
         }
     }
 
@@ -786,8 +782,8 @@ public final class PramState {
         }
     }
 
-    /** Reads a court's text into a draft, so that a fault leaves all as it was. */
-    private static final class CourtReader {
+    /** THE TEXT, and how a court is read from it: into a draft, so that a fault leaves all as it was. */
+    private static final class CourtText {
         private static final int END = 0;
         private static final int WORD = 1;
         private static final int NUMBER = 2;
@@ -795,21 +791,26 @@ public final class PramState {
         private static final int WRONG = 4;
 
         final Court draft;
-        private final byte[] text;
-        private int length;
+        int length;
+        private final byte[] bytes = new byte[TEXT];
         private int token;
         private int start;
         private int behind;
         private int value;
 
-        CourtReader(byte[] text, Court draft) {
-            this.text = text;
+        CourtText(Court draft) {
             this.draft = draft;
         }
 
+        /** The caller has seen that there is room. */
+        void append(int c) {
+            if (length >= TEXT) return;
+            bytes[length] = (byte) c;
+            length++;
+        }
+
         /** How many items, or -10 less the fault: at a fault the token that can not stand there is the one at hand. */
-        int readCourt(int typed) {
-            length = Math.min(typed, text.length);
+        int readCourt() {
             behind = 0;
             draft.begin();
             advance();
@@ -887,7 +888,7 @@ public final class PramState {
         private boolean isWord(String word) {
             if (token != WORD || behind - start != word.length()) return false;
             for (int k = 0; k < word.length(); k++) {
-                if (text[start + k] != word.charAt(k)) return false;
+                if (bytes[start + k] != word.charAt(k)) return false;
             }
             return true;
         }
@@ -900,19 +901,19 @@ public final class PramState {
             } else if (takeRun('0', '9') > 0) {
                 token = behind - start <= 2 ? NUMBER : WRONG;
                 // in a longer run the value may be anything: the token is wrong already
-                value = text[behind - 1] - '0';
-                if (behind - start > 1) value += 10 * (text[start] - '0');
+                value = bytes[behind - 1] - '0';
+                if (behind - start > 1) value += 10 * (bytes[start] - '0');
             } else if (start >= length) {
                 token = END;
             } else {
-                token = text[start] == ';' ? MARK : WRONG;
+                token = bytes[start] == ';' ? MARK : WRONG;
                 behind++;
             }
         }
 
         private int takeRun(char low, char high) {
             int first = behind;
-            while (behind < length && text[behind] >= low && text[behind] <= high) behind++;
+            while (behind < length && bytes[behind] >= low && bytes[behind] <= high) behind++;
             return behind - first;
         }
     }

@@ -192,6 +192,11 @@ public final class CourtTest {
         fault("court ", 6);
         fault("cour;", 0);
         fault(" courts;", 1);
+        fault("xourt;", 0);
+        fault("courx;", 0);
+        fault("court;xnfant 0 0 0;", 6);
+        fault("court;xkill 0 0;", 6);
+        fault("court;infant 0 0 0;nursx 0 0;", 19);
         fault("Court;", 0);
         fault("infant 0 0 0;", 0);
         fault("  ;court;", 2);

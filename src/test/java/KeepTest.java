@@ -6,6 +6,7 @@ public final class KeepTest {
         part();
         images();
         imagesKeepWhatMayBeUndone();
+        imagesKeepWholeRows();
         imagesStandApart();
         status();
         count();
@@ -44,6 +45,8 @@ public final class KeepTest {
         x.skill(3, 2);
         x.forget(0);
         x.forget(1);
+        x.note(1, 30, 20, 0, 9);
+        x.heard(0, 0);
         x.month(20);
         check.due("from(1)", x.from(1), 1);
         check.due("from(1): digest()", x.digest(), kept);
@@ -75,6 +78,31 @@ public final class KeepTest {
         x.month(5);
         x.from(0);
         check.due("the image is as it was", x.undo(), 1);
+    }
+
+    /** What has come since lies over every row that the image was made of. */
+    private static void imagesKeepWholeRows() {
+        PramState x = new PramState();
+        for (int i = 0; i < 6; i++) x.infant(i, i, 5 - i);
+        for (int n = 0; n < 6; n++) x.skill(n, n + 1);
+        for (int n = 0; n < 6; n++) x.note(n, n + 1, n + 2, 0, n + 3);
+        for (int n = 0; n < 6; n++) x.heard(n, n % 2);
+        for (int k = 0; k < 8; k++) x.nurse(k % 6, (k + 3) % 6);
+        long kept = x.digest();
+        x.image(0);
+        x.court();
+        for (int i = 0; i < 6; i++) x.infant(5 - i, 20 + i, i);
+        for (int n = 0; n < 6; n++) x.note(5 - n, 30, 20, 1, 20);
+        for (int n = 0; n < 6; n++) x.heard(5 - n, 1);
+        for (int k = 0; k < 8; k++) x.month(1);
+        x.from(0);
+        check.due("from(0): digest()", x.digest(), kept);
+        for (int k = 7; k >= 0; k--) {
+            check.due("from(0): undo() " + k, x.undo(), 0);
+            check.due("from(0): nurse then", x.of(k % 6, 3), k < 6 ? k : k - 3);
+            check.due("from(0): months then", x.of(k % 6, 1), k % 6);
+        }
+        check.no(x, "from(0): a 9th undo()", y -> y.undo());
     }
 
     private static void imagesStandApart() {

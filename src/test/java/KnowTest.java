@@ -130,8 +130,41 @@ public final class KnowTest {
         x.month(3);
         // with 12 months all of them cry 2: three are alike in 2 (asleep), in 12 and in 14
         check.due("listen(1) with 12 months", x.listen(1), 2);
+        for (int m = 0; m <= 35; m++) {
+            for (int set = 0; set < 64; set++) listenOf(m, set);
+        }
         check.bad(x, "listen(-1)", y -> y.listen(-1));
         check.bad(x, "listen(2)", y -> y.listen(2));
+    }
+
+    /** Notes taken from some of the kinds' own hours, then the hour by the face's own sleep and crying. */
+    private static void listenOf(int m, int set) {
+        PramState kinds = Check.ofAllKinds(m);
+        PramState x = Check.of(0, m, 0);
+        int like = set % 6;
+        for (int n = 0; n < set / 6 % 6; n++) {
+            int h = (7 + 5 * n + set) % 24;
+            x.note(0, m, h, kinds.hour(like, h, 0), kinds.hour(like, h, 1));
+        }
+        int fitting = x.is(0);
+        int best = PramState.NONE;
+        int fewest = 7;
+        for (int h = 0; h < 24; h++) {
+            int[] groups = new int[200];
+            int most = 0;
+            for (int k = 0; k < 6; k++) {
+                if ((fitting >> k & 1) == 0) continue;
+                int group = 100 * kinds.hour(k, h, 0) + kinds.hour(k, h, 1);
+                groups[group]++;
+                most = Math.max(most, groups[group]);
+            }
+            if (most < fewest) {
+                fewest = most;
+                best = h;
+            }
+        }
+        check.due("months " + m + ", set " + set + ": its own kind fits", fitting >> like & 1, 1);
+        check.due("months " + m + ", set " + set + ": listen(0)", x.listen(0), best);
     }
 
     private static void which() {
@@ -174,6 +207,8 @@ public final class KnowTest {
         check.due("with a nurse", x.powers(16), 1);
         x.retire(0);
         check.answered(x, "nobody reigns", y -> y.powers(9), 15);
+        check.due("of one who walks in the next month", Check.of(0, 1, 0, 4, 17, 0).powers(12), 1);
+        check.due("of one who walks in the next month, asleep", Check.of(0, 1, 0, 4, 17, 0).powers(14), 15);
         check.bad(x, "powers(-1)", y -> y.powers(-1));
         check.bad(x, "powers(24)", y -> y.powers(24));
     }
@@ -197,6 +232,12 @@ public final class KnowTest {
         fraction(x, 6, 4, 729, 15625);
         fraction(x, 9, 0, 0, 1);
         fraction(x, 2, 3, 49, 100);
+        PramState old = Check.of(0, 13, 0, 0, 5, 0);
+        fraction(old, 0, 5, 1, 1);
+        fraction(old, 1, 0, 0, 1);
+        PramState alone = Check.of(0, 13, 0);
+        fraction(alone, 0, 5, 1, 1);
+        fraction(alone, 1, 5, 0, 1);
         check.bad(x, "walks(-1, 0)", y -> y.walks(-1, 0));
         check.bad(x, "walks(10, 0)", y -> y.walks(10, 0));
         check.bad(x, "walks(0, -1)", y -> y.walks(0, -1));

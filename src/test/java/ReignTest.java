@@ -225,6 +225,8 @@ public final class ReignTest {
             PramState x = Check.of(0, 0, 0, kind, 9, 0);
             check.answered(x, "visit() to kind " + kind, y -> y.visit(), first[kind]);
         }
+        check.due("visit() to one who walks in the next month", Check.of(0, 1, 0, 2, 13, 0).visit(), 2);
+        check.due("visit() to one who walks in the next month, alone", Check.of(2, 13, 0).visit(), 2);
         PramState x = Check.of(2, 3, 0, 0, 9, 0);
         check.due("visit() to who reigns", x.visit(), 7);
         x.retire(1);
