@@ -1,5 +1,6 @@
 import java.util.ArrayList;
 import java.util.List;
+import java.util.function.Supplier;
 
 /** Gathers the answers that are not the ones that are due. */
 final class Check {
@@ -38,6 +39,51 @@ final class Check {
     /** An answered call that adds nothing to STATUS. */
     void answered(PramState x, String call, Call answeredCall, long want) {
         refused(x, -1, call, answeredCall, want);
+    }
+
+    /** A call that is carried out: its answer, and nothing more in STATUS. */
+    void answeredAnew(PramState x, String call, Call carriedOut, long want) {
+        int[] before = reasons(x);
+        due(call, carriedOut.on(x), want);
+        int[] after = reasons(x);
+        for (int r = 0; r < 3; r++) due(call + ": status(" + r + ")", after[r], before[r]);
+    }
+
+    /**
+     * A call on one of two objects that were made alike: its answer, one more in STATUS under this reason alone (-1:
+     * none), and then the two are the same in all that can be seen, what may be undone, the images and the text too.
+     */
+    void leavesAll(Supplier<PramState> made, int reason, String call, Call asked, long want) {
+        PramState x = made.get();
+        PramState y = made.get();
+        due(call, asked.on(x), want);
+        for (int r = 0; r < 3; r++) {
+            due(call + ": status(" + r + ")", x.status(r), y.status(r) + (r == reason ? 1 : 0));
+        }
+        due(call + ": all else stays", depths(x).equals(depths(y)) ? 1 : 0, 1);
+    }
+
+    /** All that an object holds but STATUS, as far as calls show it; the object is used up by this. */
+    static List<Long> depths(PramState x) {
+        List<Long> seen = new ArrayList<>();
+        seen.add(x.part(0));
+        seen.add(x.part(1));
+        undoAll(x, seen);
+        for (int image = 0; image < 2; image++) {
+            seen.add((long) x.from(image));
+            undoAll(x, seen);
+        }
+        seen.add((long) x.read());
+        undoAll(x, seen);
+        return seen;
+    }
+
+    private static void undoAll(PramState x, List<Long> seen) {
+        seen.add(x.digest());
+        for (int k = 0; k < 9; k++) {
+            seen.add((long) x.undo());
+            seen.add(x.digest());
+        }
     }
 
     private static int[] reasons(PramState x) {

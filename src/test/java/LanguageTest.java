@@ -31,6 +31,8 @@ public final class LanguageTest {
         never(code, "rule 4, exact functions", "\\bMath\\.\\w*Exact\\b");
         never(code, "rule 4, texts", "[^\\x01-\\x7f]");
         never(code, "rule 10, joined texts", "\"\\s*\\+|\\+\\s*\"");
+        never(code, "rule 6, casts and tests of classes", "\\binstanceof\\b|\\b(equals|hashCode|toString)\\(");
+        methodLengths(code);
         never(code, "rule 9, loops without an end", "while \\(true\\)|for \\(;;\\)|for \\([^;]*;\\s*;");
         check.end();
     }
@@ -38,6 +40,19 @@ public final class LanguageTest {
     private static void never(String code, String rule, String pattern) {
         Matcher found = Pattern.compile(pattern).matcher(code);
         check.due(rule + (found.find() ? ": " + found.group() : ""), found.reset().find() ? 1 : 0, 0);
+    }
+
+    /** Rule 11: a method ends at the first closing brace that stands as far in as its head. */
+    private static void methodLengths(String code) {
+        Matcher method = Pattern.compile("(?m)^( +)[^\\n;=]*\\([^\\n;]*\\) \\{\\n").matcher(code);
+        int methods = 0;
+        while (method.find()) {
+            int end = code.indexOf("\n" + method.group(1) + "}", method.end() - 1);
+            long lines = code.substring(method.start(), Math.max(method.end(), end)).lines().count();
+            check.due("rule 11: length of" + method.group().strip(), lines <= 60 ? 1 : 0, 1);
+            methods++;
+        }
+        check.due("rule 11: methods were seen", methods > 60 ? 1 : 0, 1);
     }
 
     private static void face() {
@@ -65,6 +80,9 @@ public final class LanguageTest {
         check.due("rule 11: classes", inside.length <= 11 ? 1 : 0, 1);
         for (Class<?> c : inside) {
             check.due("rule 2: " + c.getSimpleName() + " is static", Modifier.isStatic(c.getModifiers()) ? 1 : 0, 1);
+            int fields = 0;
+            for (Field f : c.getDeclaredFields()) fields += Modifier.isStatic(f.getModifiers()) ? 0 : 1;
+            check.due("rule 11: fields of " + c.getSimpleName(), fields <= 20 ? 1 : 0, 1);
             for (Field f : c.getDeclaredFields()) {
                 if (!Modifier.isStatic(f.getModifiers())) continue;
                 check.due("rule 5: " + f.getName() + " is final", Modifier.isFinal(f.getModifiers()) ? 1 : 0, 1);
