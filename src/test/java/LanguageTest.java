@@ -1,23 +1,22 @@
-import java.nio.charset.StandardCharsets;
-import java.nio.file.Files;
-import java.nio.file.Path;
-import java.util.Set;
-import java.util.TreeSet;
 import java.lang.reflect.Constructor;
 import java.lang.reflect.Field;
 import java.lang.reflect.Method;
 import java.lang.reflect.Modifier;
+import java.nio.charset.StandardCharsets;
+import java.nio.file.Files;
+import java.nio.file.Path;
+import java.util.ArrayList;
+import java.util.HashMap;
+import java.util.List;
+import java.util.Map;
+import java.util.Set;
+import java.util.TreeSet;
 import java.util.regex.Matcher;
 import java.util.regex.Pattern;
 
 /** Rules of LANGUAGE.md that can be seen in the source text or in the compiled class. */
 public final class LanguageTest {
     private static final Check check = new Check();
-    private static final Set<String> FACE = Set.of("court", "infant", "skill", "type", "clear", "read", "month", "nurse",
-        "retire", "undo", "of", "hour", "day", "reign", "falls", "line", "meet", "congress", "nurses", "visit", "note",
-        "heard", "forget", "is", "listen", "which", "powers", "walks", "dynasties", "part", "image", "from", "status",
-        "count", "digest");
-
     public static void main(String[] args) throws Exception {
         String source = Files.readString(Path.of("src/main/java/PramState.java"), StandardCharsets.ISO_8859_1);
         String code = source.replaceAll("(?s)/\\*.*?\\*/", "").replaceAll("//[^\n]*", "");
@@ -55,27 +54,47 @@ public final class LanguageTest {
         check.due("rule 11: methods were seen", methods > 60 ? 1 : 0, 1);
     }
 
+    /** Every method and the constructor as the document has them: name, numbers taken, what is answered; no other. */
     private static void face() {
-        Set<String> methods = new TreeSet<>();
+        Set<String> open = new TreeSet<>();
         for (Method m : PramState.class.getDeclaredMethods()) {
-            boolean open = Modifier.isPublic(m.getModifiers());
-            check.due("rule 1: " + m.getName() + " is of the face, or private", open || Modifier.isPrivate(m.getModifiers()) ? 1 : 0, 1);
-            check.due("rule 1: name " + m.getName(), open == FACE.contains(m.getName()) ? 1 : 0, 1);
-            if (open) methods.add(m.getName());
+            boolean isPublic = Modifier.isPublic(m.getModifiers());
+            check.due("rule 1: " + m.getName() + " is of the face, or private",
+                isPublic || Modifier.isPrivate(m.getModifiers()) ? 1 : 0, 1);
+            check.due("rule 1: name " + m.getName(), isPublic == Face.methods().containsKey(m.getName()) ? 1 : 0, 1);
+            if (isPublic) open.add(head(m));
         }
-        check.due("rule 1: all of the face", methods.equals(new TreeSet<>(FACE)) ? 1 : 0, 1);
+        Set<String> told = new TreeSet<>();
+        for (String head : Face.methods().values()) told.add(head.replaceAll("int \\w+([,)])", "int$1"));
+        check.due("the face is told with 35 methods", told.size(), 35);
+        check.due("rule 1: the face is " + told + " and not " + open, open.equals(told) ? 1 : 0, 1);
         Constructor<?>[] constructors = PramState.class.getDeclaredConstructors();
         check.due("rule 1: one constructor", constructors.length, 1);
-        check.due("rule 1: final", Modifier.isFinal(PramState.class.getModifiers()) ? 1 : 0, 1);
+        check.due("rule 1: it takes nothing", constructors[0].getParameterCount(), 0);
+        check.due("rule 1: it is public", Modifier.isPublic(constructors[0].getModifiers()) ? 1 : 0, 1);
+        int manner = PramState.class.getModifiers();
+        check.due("rule 1: public and final", Modifier.isPublic(manner) && Modifier.isFinal(manner) ? 1 : 0, 1);
     }
 
-    private static void members() {
-        int open = 0;
+    private static String head(Method m) {
+        List<String> taken = new ArrayList<>();
+        for (Class<?> type : m.getParameterTypes()) taken.add(type.getName());
+        boolean plain = !Modifier.isStatic(m.getModifiers());
+        return (plain ? "" : "static ") + m.getReturnType().getName() + " " + m.getName() + "(" + String.join(", ", taken) + ")";
+    }
+
+    private static void members() throws IllegalAccessException {
+        Map<String, Integer> constants = new HashMap<>();
         for (Field f : PramState.class.getDeclaredFields()) {
-            if (Modifier.isPublic(f.getModifiers())) open++;
-            else check.due("rule 1: field " + f.getName() + " is private", Modifier.isPrivate(f.getModifiers()) ? 1 : 0, 1);
+            boolean fixed = Modifier.isStatic(f.getModifiers()) && Modifier.isFinal(f.getModifiers());
+            if (Modifier.isPublic(f.getModifiers()) && fixed && f.getType() == int.class) {
+                constants.put(f.getName(), f.getInt(null));
+            } else {
+                check.due("rule 1: field " + f.getName() + " is private", Modifier.isPrivate(f.getModifiers()) ? 1 : 0, 1);
+            }
+            check.due("rule 5: " + f.getName() + " is final, or no static one", fixed || !Modifier.isStatic(f.getModifiers()) ? 1 : 0, 1);
         }
-        check.due("rule 1: constants of the face", open, 4);
+        check.due("rule 1: constants of the face, not " + constants, constants.equals(Face.constants()) ? 1 : 0, 1);
         Class<?>[] inside = PramState.class.getDeclaredClasses();
         check.due("rule 11: classes", inside.length <= 11 ? 1 : 0, 1);
         for (Class<?> c : inside) {
@@ -89,6 +108,7 @@ public final class LanguageTest {
             }
             for (Method m : c.getDeclaredMethods()) {
                 check.due("rule 11: parameters of " + m.getName(), m.getParameterCount() <= 7 ? 1 : 0, 1);
+                check.due("rule 1: " + m.getName() + " of " + c.getSimpleName(), Face.methods().containsKey(m.getName()) ? 1 : 0, 0);
             }
         }
     }
